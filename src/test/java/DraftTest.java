@@ -1,216 +1,430 @@
-/** Promises 1 to 5: a new object, put, scrap, build, load. */
+/** Promises 1 to 5 (a new object, put, scrap, build, load): each sentence has a test here. */
 public final class DraftTest {
   private static final Checks CHECKS = new Checks();
-  private static final String NINETY_SIX = "abcdefgh".repeat(12);
+  private static final int[] NO_STEPS = {1, 0, -1, -2, -4, -16, 17, 18, 32, 258, Integer.MAX_VALUE, Integer.MIN_VALUE};
 
   public static void main(String[] args) {
-    promise1NewObject();
-    promise1Step();
-    promise2Symbols();
-    promise2Limit();
-    promise3();
-    promise4();
-    promise4Limits();
-    promise5();
-    promise5WrongDrafts();
-    promise5ChangesNothing();
-    promise5Limits();
+    newDraftIsEmpty();
+    newObjectHasNoIndex();
+    everyStepthPlace();
+    everyFourthPlace();
+    onlyWalkDependsOnStep();
+    putLowestFirst();
+    putLeavesZerosOut();
+    putOfNoSymbol();
+    putOfNoSymbolChangesNothing();
+    putUpToNinetySeven();
+    putBeyondNinetySeven();
+    putBeyondChangesNothing();
+    zerosDoNotCount();
+    scrapMakesEmpty();
+    scrapOfEmptyFullAndWrongDrafts();
+    scrapKeepsTheIndex();
+    buildMakesTheIndex();
+    buildAfterOthers();
+    buildMakesTheDraftEmpty();
+    buildAnswersSequences();
+    buildWithEnd();
+    buildOfMoreThanNinetySix();
+    buildRefusedChangesNothing();
+    loadOfAnImage();
+    loadOfTheLongestImage();
+    loadMakesTheDraftEmpty();
+    loadWithoutJustOneEnd();
+    loadOfSeveralRounds();
+    loadRefusedChangesNothing();
     CHECKS.end();
   }
 
-  private static void promise1NewObject() {
-    SelfIndexedSequences x = new SelfIndexedSequences(3);
-    long pattern = Checks.word("ab");
-    CHECKS.due("new: size()", x.size(), 0);
-    CHECKS.due("new: image(0)", x.image(0), 0);
-    CHECKS.due("new: rank($, 0)", x.rank('$', 0), 0);
-    CHECKS.due("new: rank(z, 0)", x.rank('z', 0), 0);
-    CHECKS.due("new: rank(z, 1)", x.rank('z', 1), -1);
-    CHECKS.due("new: rank(Z, 0)", x.rank('Z', 0), -1);
-    CHECKS.due("new: suffix(0)", x.suffix(0), -1);
-    CHECKS.due("new: walk(0)", x.walk(0), -1);
-    CHECKS.due("new: sequences()", x.sequences(), 0);
-    CHECKS.due("new: length(0)", x.length(0), -1);
-    CHECKS.due("new: extract(0, 0)", x.extract(0, 0), 0);
-    CHECKS.due("new: count(ab)", x.count(pattern), 0);
-    CHECKS.due("new: count(0)", x.count(0), -1);
-    CHECKS.due("new: place(ab, 0)", x.place(pattern, 0), -1);
-    CHECKS.due("new: matches(ab, 4)", x.matches(pattern, 4), 0);
-    CHECKS.due("new: matches(ab, 5)", x.matches(pattern, 5), -1);
-    CHECKS.due("new: match(ab, 4, 0)", x.match(pattern, 4, 0), -1);
-    CHECKS.due("new: load()", x.load(), false);
-    CHECKS.due("new: build()", x.build(), 1);
-    CHECKS.due("new, built: size()", x.size(), 1);
+  private static void newDraftIsEmpty() {
+    CHECKS.sentence("1: An empty draft");
+    SelfIndexedSequences x = new SelfIndexedSequences(4);
+    CHECKS.due("load() of a new draft", x.load(), false);
+    CHECKS.due("build() of a new draft", x.build(), 1);
+    CHECKS.due("size() of a new draft", x.size(), 1);
+    CHECKS.due("97 put into a new draft", Checks.putAll(new SelfIndexedSequences(4), "a".repeat(97)), true);
   }
 
-  private static void promise1Step() {
-    int[] steps = {2, 3, 4, 15, 16, 1, 0, -1, 17, 18, -4, Integer.MAX_VALUE, Integer.MIN_VALUE};
-    for (int step : steps) {
-      int kept = step >= 2 && step <= 16 ? step : 4;
-      SelfIndexedSequences x = Checks.built(step, "z".repeat(40));
-      for (int k = 0; k <= 40; k++) {
-        // Of equal letters the shorter suffix comes first.
-        CHECKS.due("step " + step + ": suffix(" + k + ")", x.suffix(k), 40 - k);
-        CHECKS.due("step " + step + ": walk(" + k + ")", x.walk(k), (40 - k) % kept);
+  private static void newObjectHasNoIndex() {
+    CHECKS.sentence("1: no index");
+    for (int step = -1; step <= 18; step++) {
+      SelfIndexedSequences x = new SelfIndexedSequences(step);
+      CHECKS.due("size() with step " + step, x.size(), 0);
+      CHECKS.due("sequences() with step " + step, x.sequences(), 0);
+      CHECKS.due("suffix(0) with step " + step, x.suffix(0), -1);
+      CHECKS.due("walk(0) with step " + step, x.walk(0), -1);
+    }
+  }
+
+  private static void everyStepthPlace() {
+    CHECKS.sentence("1: Positions are kept for every step-th place of the text");
+    for (int step = 2; step <= 16; step++) {
+      walks(step, step);
+    }
+  }
+
+  private static void everyFourthPlace() {
+    CHECKS.sentence("1: or for every fourth if step is not 2 .. 16");
+    for (int step : NO_STEPS) {
+      walks(step, 4);
+    }
+  }
+
+  private static void walks(int step, int kept) {
+    SelfIndexedSequences x = Checks.built(step, "z".repeat(96));
+    // Of equal letters the shorter suffix comes first: suffix k begins at 96 - k.
+    for (int k = 0; k <= 96; k++) {
+      CHECKS.due("step " + step + ": walk(" + k + ")", x.walk(k), (96 - k) % kept);
+    }
+  }
+
+  private static void onlyWalkDependsOnStep() {
+    CHECKS.sentence("1: (No answer depends on it but those of walk().)");
+    for (String text : new String[] {"", "abra|cad||abra", "ab|".repeat(32), "a".repeat(96)}) {
+      String image = Checks.imageOf(Checks.built(4, text));
+      String due = Checks.answersOf(Checks.built(4, text));
+      for (int step = -1; step <= 18; step++) {
+        CHECKS.due("built with step " + step, Checks.answersOf(Checks.built(step, text)), due);
+        CHECKS.due("loaded with step " + step, Checks.answersOf(Checks.loaded(step, image)), due);
       }
     }
   }
 
-  private static void promise2Symbols() {
-    for (int code = 1; code <= 255; code++) {
-      SelfIndexedSequences x = new SelfIndexedSequences(4);
-      boolean symbol = code == '$' || code == '|' || code >= 'a' && code <= 'z';
-      for (int b = 0; b < 8; b++) {
-        CHECKS.due("put(code " + code + " in byte " + b + ")", x.put((long) code << (8 * b)), symbol);
-      }
-      x.scrap();
-      CHECKS.due("put(a, code " + code + ", b)", x.put('a' | (long) code << 24 | (long) 'b' << 56), symbol);
-      int due = code == '$' ? -1 : code == '|' ? 2 : 1;
-      CHECKS.due("build() after code " + code, x.build(), due);
-      if (due != -1) {
-        CHECKS.due("size() after code " + code, x.size(), symbol ? 4 : 1);
-      }
-    }
+  private static void putLowestFirst() {
+    CHECKS.sentence("2: Adds the symbols in the eight bytes of a long, the lowest first, to the draft");
+    SelfIndexedSequences x = new SelfIndexedSequences(4);
+    CHECKS.due("put(zbcdefgh)", x.put(Checks.word("zbcdefgh")), true);
+    CHECKS.due("put(ij|k)", x.put(Checks.word("ij|k")), true);
+    CHECKS.due("put(l)", x.put('l'), true);
+    builds("three puts", x, "zbcdefghij|kl");
+  }
+
+  private static void putLeavesZerosOut() {
+    CHECKS.sentence("2: bytes 0 are left out");
     SelfIndexedSequences x = new SelfIndexedSequences(4);
     CHECKS.due("put(0)", x.put(0L), true);
-    CHECKS.due("put(a0b0c)", x.put(Checks.word("\0a\0b\0\0\0c")), true);
-    CHECKS.due("put(d)", x.put((long) 'd'), true);
-    CHECKS.due("put(ab, 255)", x.put(Checks.word("ab\u00ff")), false);
-    CHECKS.due("put(MIN_VALUE)", x.put(Long.MIN_VALUE), false);
-    CHECKS.due("put(-1)", x.put(-1L), false);
-    CHECKS.due("build()", x.build(), 1);
-    CHECKS.due("extract(0, 0)", x.extract(0, 0), Checks.word("abcd"));
+    CHECKS.due("put(0 a 0 b 0 0 0 c)", x.put(Checks.word("\0a\0b\0\0\0c")), true);
+    CHECKS.due("put(0)", x.put(0L), true);
+    CHECKS.due("put(d in the highest byte)", x.put((long) 'd' << 56), true);
+    CHECKS.due("put(e in the lowest byte)", x.put('e'), true);
+    builds("puts with 0", x, "abcde");
   }
 
-  private static void promise2Limit() {
-    SelfIndexedSequences x = new SelfIndexedSequences(4);
-    CHECKS.due("96 put", Checks.putAll(x, NINETY_SIX), true);
-    CHECKS.due("put of 2 at 96", x.put(Checks.word("xy")), false);
-    CHECKS.due("put of 2 with 0 between at 96", x.put(Checks.word("x\0\0\0\0\0\0y")), false);
-    CHECKS.due("put of 8 at 96", x.put(Checks.word("abcdefgh")), false);
-    CHECKS.due("put of 1 in the highest byte at 96", x.put((long) '$' << 56), true);
-    CHECKS.due("put of 1 at 97", x.put((long) 'a'), false);
-    CHECKS.due("put(0) at 97", x.put(0L), true);
-    CHECKS.due("build() with $", x.build(), -1);
-    x.scrap();
-    CHECKS.due("90 put", Checks.putAll(x, "a".repeat(90)), true);
-    CHECKS.due("put of 8 at 90", x.put(Checks.word("bbbbbbbb")), false);
-    CHECKS.due("put of 6 at 90", x.put(Checks.word("cccccc")), true);
-    CHECKS.due("build()", x.build(), 1);
-    CHECKS.due("length(0)", x.length(0), 96);
-    CHECKS.due("count(b)", x.count('b'), 0);
-    CHECKS.due("count(c)", x.count('c'), 6);
-  }
-
-  private static void promise3() {
-    SelfIndexedSequences x = Checks.built(4, "abc");
-    x.scrap();
-    CHECKS.due("scrap keeps the index: size()", x.size(), 4);
-    x.put(Checks.word("a$b"));
-    x.scrap();
-    x.put(Checks.word("xy"));
-    CHECKS.due("build() after scrap", x.build(), 1);
-    CHECKS.due("extract(0, 0) after scrap", x.extract(0, 0), Checks.word("xy"));
-    Checks.putAll(x, NINETY_SIX);
-    x.scrap();
-    x.scrap();
-    CHECKS.due("96 put after scrap", Checks.putAll(x, NINETY_SIX), true);
-    x.scrap();
-    CHECKS.due("load() after scrap", x.load(), false);
-    CHECKS.due("build() of nothing", x.build(), 1);
-    CHECKS.due("size() of nothing", x.size(), 1);
-  }
-
-  private static void promise4() {
-    String[] texts = {"", "|", "||", "a", "|a", "a|", "a||b", "abc|de||f|", "zz|z", "a".repeat(96), "|".repeat(96)};
-    SelfIndexedSequences x = new SelfIndexedSequences(4);
-    for (String text : texts) {
-      PlainModel model = new PlainModel(4, text);
-      CHECKS.due("put " + text, Checks.putAll(x, text), true);
-      CHECKS.due("build() of " + text, x.build(), model.sequences.size());
-      CHECKS.due("text of " + text, Checks.contentOf(x).equals(text), true);
-      CHECKS.due("image of " + text, Checks.imageOf(x).equals(model.image()), true);
-    }
-    CHECKS.due("the draft is empty: build()", x.build(), 1);
-    CHECKS.due("the draft is empty: size()", x.size(), 1);
-  }
-
-  private static void promise4Limits() {
-    SelfIndexedSequences x = Checks.built(4, "ab|c");
-    Checks.putAll(x, "xy$");
-    CHECKS.due("build() with $", x.build(), -1);
-    CHECKS.due("the index stays", Checks.contentOf(x).equals("ab|c"), true);
-    // The draft stays as well: it is the image of yx.
-    CHECKS.due("load() of the draft that build() left", x.load(), true);
-    CHECKS.due("its text", Checks.contentOf(x).equals("yx"), true);
-    Checks.putAll(x, "b".repeat(97));
-    CHECKS.due("build() of 97", x.build(), -1);
-    CHECKS.due("the index stays again", Checks.contentOf(x).equals("yx"), true);
-    CHECKS.due("the draft stays: put(a)", x.put('a'), false);
-    x.scrap();
-    Checks.putAll(x, "b".repeat(96));
-    CHECKS.due("build() of 96", x.build(), 1);
-    CHECKS.due("size() of 96", x.size(), 97);
-  }
-
-  private static void promise5() {
-    String[] texts = {"", "a", "|", "a|", "|a", "banana", "mississippi|ississ||sip", "a".repeat(96), "|".repeat(96),
-        NINETY_SIX, "ab|".repeat(32), "zyx|".repeat(24)};
-    SelfIndexedSequences x = new SelfIndexedSequences(7);
-    for (String text : texts) {
-      Checks.putAll(x, new PlainModel(7, text).image());
-      CHECKS.due("load() of the image of " + text, x.load(), true);
-      CHECKS.due("size() of " + text, x.size(), text.length() + 1);
-      CHECKS.due("text of the image of " + text, Checks.contentOf(x).equals(text), true);
-      CHECKS.due("the draft is empty: load()", x.load(), false);
-    }
-    CHECKS.due("build() of the empty draft", x.build(), 1);
-    CHECKS.due("size() of the empty draft", x.size(), 1);
-  }
-
-  private static void promise5WrongDrafts() {
-    // Without just one $, or with one and several rounds of going back (in $a one that is $ alone).
-    String[] drafts = {"", "a", "|", "$$", "$a", "$|", "ba$", "ab", "a$$", "a$b$", "b$a$", "$$$", "aba$", "$aab", "banana", "banana$"};
-    for (String draft : drafts) {
+  private static void putOfNoSymbol() {
+    CHECKS.sentence("2: False when another byte is no symbol");
+    for (int code = 1; code <= 255; code++) {
+      boolean symbol = code == '$' || code == '|' || code >= 'a' && code <= 'z';
       SelfIndexedSequences x = new SelfIndexedSequences(4);
-      Checks.putAll(x, draft);
-      CHECKS.due("load() of " + draft, x.load(), false);
-      CHECKS.due("size() after " + draft, x.size(), 0);
+      for (int b = 0; b < 8; b++) {
+        long others = Checks.word("abcdefgh") & ~(255L << (8 * b));
+        CHECKS.due("put(code " + code + " alone in byte " + b + ")", x.put((long) code << (8 * b)), symbol);
+        x.scrap();
+        CHECKS.due("put(code " + code + " in byte " + b + ")", x.put(others | (long) code << (8 * b)), symbol);
+        x.scrap();
+      }
+    }
+    CHECKS.due("put(-1)", new SelfIndexedSequences(4).put(-1L), false);
+    CHECKS.due("put(MIN_VALUE)", new SelfIndexedSequences(4).put(Long.MIN_VALUE), false);
+  }
+
+  private static void putOfNoSymbolChangesNothing() {
+    CHECKS.sentence("2: changing nothing, when another byte is no symbol");
+    for (int b = 0; b < 8; b++) {
+      SelfIndexedSequences x = Checks.built(4, "abra|cad");
+      String before = Checks.answersOf(x);
+      x.put(Checks.word("xy"));
+      long others = Checks.word("abcdefgh") & ~(255L << (8 * b));
+      CHECKS.due("put(A in byte " + b + ")", x.put(others | (long) 'A' << (8 * b)), false);
+      CHECKS.due("the index after A in byte " + b, Checks.answersOf(x), before);
+      x.put('z');
+      builds("the draft after A in byte " + b, x, "xyz");
     }
   }
 
-  private static void promise5ChangesNothing() {
-    SelfIndexedSequences x = Checks.built(3, "abra|cadabra");
-    String image = Checks.imageOf(x);
-    Checks.putAll(x, "ba");
-    CHECKS.due("load() of ba", x.load(), false);
-    x.put('$');
-    CHECKS.due("load() of ba$", x.load(), false);
-    CHECKS.due("image", Checks.imageOf(x).equals(image), true);
-    CHECKS.due("text", Checks.contentOf(x).equals("abra|cadabra"), true);
-    CHECKS.due("count(abra)", x.count(Checks.word("abra")), 2);
-    CHECKS.due("place(abra, 1)", x.place(Checks.word("abra"), 1), 103);
-    CHECKS.due("matches(abra, 1)", x.matches(Checks.word("abra"), 1),
-        new PlainModel(3, "abra|cadabra").matches("abra", 1).size());
-    CHECKS.due("suffix(5)", x.suffix(5), new PlainModel(3, "abra|cadabra").suffix(5));
-    CHECKS.due("build() with the $ still there", x.build(), -1);
-    x.scrap();
-    Checks.putAll(x, "ba");
-    CHECKS.due("load() of ba again", x.load(), false);
-    CHECKS.due("build() of the draft that load() left", x.build(), 1);
-    CHECKS.due("its text", Checks.contentOf(x).equals("ba"), true);
+  private static void putUpToNinetySeven() {
+    CHECKS.sentence("2: the draft may have 97");
+    for (int last = 1; last <= 8; last++) {
+      SelfIndexedSequences x = Checks.drafted(4, "a".repeat(97 - last));
+      CHECKS.due("put of the last " + last, x.put(Checks.word("a".repeat(last - 1) + "$")), true);
+      CHECKS.due("load() of 97", x.load(), true);
+      CHECKS.due("text of 97", Checks.contentOf(x), "a".repeat(96));
+    }
   }
 
-  private static void promise5Limits() {
+  private static void putBeyondNinetySeven() {
+    CHECKS.sentence("2: False when the draft would have more than 97");
+    for (int there = 90; there <= 97; there++) {
+      for (int more = 98 - there; more <= 8; more++) {
+        SelfIndexedSequences x = Checks.drafted(4, "a".repeat(there));
+        CHECKS.due("put of " + more + " at " + there, x.put(Checks.word("b".repeat(more))), false);
+      }
+    }
+    SelfIndexedSequences x = Checks.drafted(4, "a".repeat(96));
+    CHECKS.due("put of 2 with 0 between at 96", x.put(Checks.word("x\0\0\0\0\0\0y")), false);
+    CHECKS.due("put of no symbol at 96", x.put('A'), false);
+    CHECKS.due("put of 1 at 96", x.put('|'), true);
+    CHECKS.due("put of 1 at 97", x.put('|'), false);
+    CHECKS.due("put of no symbol at 97", x.put('A'), false);
+  }
+
+  private static void putBeyondChangesNothing() {
+    CHECKS.sentence("2: changing nothing, when the draft would have more than 97");
+    SelfIndexedSequences x = Checks.built(4, "abra|cad");
+    String before = Checks.answersOf(x);
+    Checks.putAll(x, "a".repeat(90));
+    CHECKS.due("put of 8 at 90", x.put(Checks.word("bbbbbbbb")), false);
+    CHECKS.due("the index", Checks.answersOf(x), before);
+    CHECKS.due("put of 6 at 90", x.put(Checks.word("cccccc")), true);
+    builds("the draft", x, "a".repeat(90) + "cccccc");
+    SelfIndexedSequences y = Checks.drafted(4, "a".repeat(96) + "$");
+    CHECKS.due("put of 1 at 97", y.put('b'), false);
+    CHECKS.due("load() of what was there", y.load(), true);
+    CHECKS.due("its text", Checks.contentOf(y), "a".repeat(96));
+  }
+
+  private static void zerosDoNotCount() {
+    CHECKS.sentence("2: bytes 0 are left out, also of what the draft would have");
+    SelfIndexedSequences x = Checks.drafted(4, "a".repeat(96));
+    CHECKS.due("put of 1 in the highest byte at 96", x.put((long) '$' << 56), true);
+    CHECKS.due("put(0) at 97", x.put(0L), true);
+    CHECKS.due("load()", x.load(), true);
+    CHECKS.due("size()", x.size(), 97);
+  }
+
+  private static void scrapMakesEmpty() {
+    CHECKS.sentence("3: Makes the draft empty");
+    SelfIndexedSequences x = Checks.drafted(4, "abc");
+    x.scrap();
+    builds("after scrap()", x, "");
+    Checks.putAll(x, "abc");
+    x.scrap();
+    Checks.putAll(x, "xy");
+    builds("put after scrap()", x, "xy");
+    Checks.putAll(x, "b$a");
+    x.scrap();
+    CHECKS.due("load() after scrap() of an image", x.load(), false);
+  }
+
+  private static void scrapOfEmptyFullAndWrongDrafts() {
+    CHECKS.sentence("3: Makes the draft empty, whatever it was");
+    for (String draft : new String[] {"", "$", "$$", "a$b", "a".repeat(96), "a".repeat(97), "$".repeat(97)}) {
+      SelfIndexedSequences x = Checks.drafted(4, draft);
+      x.scrap();
+      x.scrap();
+      CHECKS.due("97 put after scrap() of " + draft, Checks.putAll(x, "a".repeat(96) + "$"), true);
+      CHECKS.due("load() after scrap() of " + draft, x.load(), true);
+      CHECKS.due("text after scrap() of " + draft, Checks.contentOf(x), "a".repeat(96));
+    }
+  }
+
+  private static void scrapKeepsTheIndex() {
+    CHECKS.sentence("3: the draft, and not the index");
+    SelfIndexedSequences x = Checks.built(4, "abra|cad");
+    String before = Checks.answersOf(x);
+    x.scrap();
+    CHECKS.due("the index after scrap() of nothing", Checks.answersOf(x), before);
+    Checks.putAll(x, "xyz");
+    x.scrap();
+    CHECKS.due("the index after scrap() of xyz", Checks.answersOf(x), before);
+  }
+
+  private static void buildMakesTheIndex() {
+    CHECKS.sentence("4: Makes the index that of the draft as a text");
     SelfIndexedSequences x = new SelfIndexedSequences(4);
-    Checks.putAll(x, "a".repeat(97));
-    CHECKS.due("load() of 97 without $", x.load(), false);
+    for (String text : new String[] {"banana", "", "a", "|", "z|", "|z", "abcdefgh".repeat(12), "|".repeat(96), "b"}) {
+      Checks.putAll(x, text);
+      builds("build() of " + text, x, text);
+    }
+    Checks.putAll(x, "banana");
+    x.build();
+    CHECKS.due("image of banana", Checks.imageOf(x), "annb$aa");
+  }
+
+  private static void buildAfterOthers() {
+    CHECKS.sentence("4: Makes the index that of the draft, whatever was built, loaded or refused before");
+    SelfIndexedSequences x = new SelfIndexedSequences(4);
+    for (String text : new String[] {"xyz", "zy|", "", "z", ""}) {
+      Checks.putAll(x, text);
+      x.build();
+      CHECKS.due("answers after build() of " + text, Checks.answersOf(x), Checks.answersOf(Checks.built(4, text)));
+    }
+    for (String draft : new String[] {"z", "zz$z", "$$", "z".repeat(97), "z".repeat(96) + "$"}) {
+      SelfIndexedSequences y = Checks.loaded(4, draft);
+      y.scrap();
+      CHECKS.due("build() of nothing after load() of " + draft, y.build(), 1);
+      CHECKS.due("answers after load() of " + draft, Checks.answersOf(y), Checks.answersOf(Checks.built(4, "")));
+    }
+  }
+
+  private static void buildMakesTheDraftEmpty() {
+    CHECKS.sentence("4: and the draft empty");
+    SelfIndexedSequences x = Checks.built(4, "ab");
+    builds("build() again", x, "");
+    Checks.putAll(x, "ab");
+    x.build();
+    Checks.putAll(x, "cd");
+    builds("build() of cd after ab", x, "cd");
+    Checks.putAll(x, "a".repeat(96));
+    x.build();
+    CHECKS.due("load() of nothing", x.load(), false);
+    CHECKS.due("97 put after build()", Checks.putAll(x, "a".repeat(97)), true);
+  }
+
+  private static void buildAnswersSequences() {
+    CHECKS.sentence("4: how many sequences it has");
+    for (int bars = 0; bars <= 96; bars++) {
+      CHECKS.due("build() of " + bars + " bars", Checks.drafted(4, "|".repeat(bars)).build(), bars + 1);
+      String text = "|".repeat(bars) + "a".repeat(96 - bars);
+      CHECKS.due("build() of " + text, Checks.drafted(4, text).build(), bars + 1);
+    }
+  }
+
+  private static void buildWithEnd() {
+    CHECKS.sentence("4: NONE when the draft has a $");
+    for (String draft : new String[] {"$", "$$", "$a", "a$", "a$b", "|$", "ab$cd$", "a".repeat(95) + "$", "$" + "a".repeat(95)}) {
+      CHECKS.due("build() of " + draft, Checks.drafted(4, draft).build(), -1);
+    }
+    SelfIndexedSequences x = Checks.drafted(4, "ab$");
     x.scrap();
-    Checks.putAll(x, "$" + "a".repeat(96));
-    CHECKS.due("load() of 97 with $ first", x.load(), false);
-    x.scrap();
+    Checks.putAll(x, "xy");
+    CHECKS.due("build() of xy where ab$ was", x.build(), 1);
+  }
+
+  private static void buildOfMoreThanNinetySix() {
+    CHECKS.sentence("4: NONE when the draft has more than 96 symbols");
+    CHECKS.due("build() of 95", Checks.drafted(4, "b".repeat(95)).build(), 1);
+    CHECKS.due("build() of 96", Checks.drafted(4, "b".repeat(96)).build(), 1);
+    CHECKS.due("build() of 97", Checks.drafted(4, "b".repeat(97)).build(), -1);
+    CHECKS.due("build() of 97 bars", Checks.drafted(4, "|".repeat(97)).build(), -1);
+    CHECKS.due("build() of 97 with $", Checks.drafted(4, "b".repeat(96) + "$").build(), -1);
+  }
+
+  private static void buildRefusedChangesNothing() {
+    CHECKS.sentence("4: NONE, changing nothing");
+    SelfIndexedSequences x = Checks.built(4, "abra|cad");
+    String before = Checks.answersOf(x);
+    Checks.putAll(x, "b$");
+    CHECKS.due("build() of b$", x.build(), -1);
+    CHECKS.due("the index", Checks.answersOf(x), before);
+    x.put('a');
+    CHECKS.due("load() of the draft and a", x.load(), true);
+    CHECKS.due("its text", Checks.contentOf(x), "ab");
     Checks.putAll(x, "a".repeat(96) + "$");
-    CHECKS.due("load() of 97 with $ last", x.load(), true);
-    CHECKS.due("length(0)", x.length(0), 96);
+    CHECKS.due("build() of 97", x.build(), -1);
+    CHECKS.due("the index stays", Checks.contentOf(x), "ab");
+    CHECKS.due("the draft is full", x.put('a'), false);
+    CHECKS.due("load() of the draft", x.load(), true);
+    CHECKS.due("its text", Checks.contentOf(x), "a".repeat(96));
+  }
+
+  private static void loadOfAnImage() {
+    CHECKS.sentence("5: If the draft is the image of a text, makes the index that of this text");
+    String[][] images = {{"$", ""}, {"a$", "a"}, {"|$", "|"}, {"b$a", "ab"}, {"ab$", "ba"}, {"a$|", "|a"}, {"|a$", "a|"},
+        {"annb$aa", "banana"}, {"abrda$|", "dab|ra"}, {"abcdefghijklmnopqrstuvwxyz$", "zyxwvutsrqponmlkjihgfedcba"}};
+    SelfIndexedSequences x = new SelfIndexedSequences(4);
+    for (String[] image : images) {
+      Checks.putAll(x, image[0]);
+      CHECKS.due("load() of " + image[0], x.load(), true);
+      CHECKS.due("text of " + image[0], Checks.contentOf(x), image[1]);
+      CHECKS.due("image of " + image[0], Checks.imageOf(x), image[0]);
+    }
+  }
+
+  private static void loadOfTheLongestImage() {
+    CHECKS.sentence("5: the image of a text of 96 symbols has 97");
+    String[] texts = {"a".repeat(96), "|".repeat(96), "ab|".repeat(32), "zyx|".repeat(24), "abcdefgh".repeat(12),
+        "b".repeat(95) + "a", "a".repeat(95) + "b"};
+    for (String text : texts) {
+      SelfIndexedSequences x = Checks.drafted(4, Checks.imageOf(Checks.built(4, text)));
+      CHECKS.due("load() of the image of " + text, x.load(), true);
+      CHECKS.due("text of the image of " + text, Checks.contentOf(x), text);
+      CHECKS.due("size() of the image of " + text, x.size(), 97);
+    }
+  }
+
+  private static void loadMakesTheDraftEmpty() {
+    CHECKS.sentence("5: and the draft empty, and answers true");
+    SelfIndexedSequences x = Checks.drafted(4, "b$a");
+    CHECKS.due("load() of b$a", x.load(), true);
+    CHECKS.due("load() again", x.load(), false);
+    CHECKS.due("text after load() again", Checks.contentOf(x), "ab");
+    builds("build() after load()", x, "");
+    Checks.putAll(x, "a".repeat(96) + "$");
+    CHECKS.due("load() of 97", x.load(), true);
+    CHECKS.due("97 put after load()", Checks.putAll(x, "a".repeat(97)), true);
+  }
+
+  private static void loadWithoutJustOneEnd() {
+    CHECKS.sentence("5: Else false: an image has one $");
+    refused("");
+    refused("a");
+    refused("|");
+    refused("ab");
+    refused("banana");
+    refused("a".repeat(97));
+    refused("$$");
+    refused("$$$");
+    refused("a$$");
+    refused("a$b$");
+    refused("b$a$");
+    refused("annb$a$");
+    refused("$".repeat(97));
+  }
+
+  private static void loadOfSeveralRounds() {
+    CHECKS.sentence("5: Else false: one $, but the order of no text");
+    refused("$a");
+    refused("$|");
+    refused("$z|");
+    refused("ba$");
+    refused("aba$");
+    refused("$aab");
+    refused("banana$");
+    refused("annba$a");
+    refused("$" + "a".repeat(96));
+    refused("a".repeat(95) + "$a");
+    refused("a".repeat(48) + "$" + "a".repeat(48));
+    refused("b" + "a".repeat(95) + "$");
+  }
+
+  private static void refused(String draft) {
+    SelfIndexedSequences x = Checks.drafted(4, draft);
+    CHECKS.due("load() of " + draft, x.load(), false);
+    CHECKS.due("size() after load() of " + draft, x.size(), 0);
+    CHECKS.due("load() of " + draft + " again", x.load(), false);
+  }
+
+  private static void loadRefusedChangesNothing() {
+    CHECKS.sentence("5: Else false, changing nothing");
+    SelfIndexedSequences x = Checks.built(4, "abra|cad");
+    String before = Checks.answersOf(x);
+    CHECKS.due("load() of nothing", x.load(), false);
+    CHECKS.due("the index after load() of nothing", Checks.answersOf(x), before);
+    x.put(Checks.word("b$"));
+    CHECKS.due("load() of b$", x.load(), true);
+    CHECKS.due("text of b$", Checks.contentOf(x), "b");
+    before = Checks.answersOf(x);
+    x.put(Checks.word("$a"));
+    CHECKS.due("load() of $a", x.load(), false);
+    CHECKS.due("the index after $a", Checks.answersOf(x), before);
+    CHECKS.due("build() of the draft that stays", x.build(), -1);
+    x.scrap();
+    x.put(Checks.word("ba"));
+    CHECKS.due("load() of ba", x.load(), false);
+    CHECKS.due("the index after ba", Checks.answersOf(x), before);
+    x.put('c');
+    builds("the draft after load() of ba", x, "bac");
+    x.put('a');
+    CHECKS.due("load() of a", x.load(), false);
+    x.put('$');
+    CHECKS.due("load() of a and $", x.load(), true);
+    CHECKS.due("its text", Checks.contentOf(x), "a");
+  }
+
+  /** Builds, and looks whether the draft was this text. */
+  private static void builds(String what, SelfIndexedSequences x, String text) {
+    int sequences = 1 + text.length() - text.replace("|", "").length();
+    CHECKS.due(what + ": build()", x.build(), sequences);
+    CHECKS.due(what + ": text", Checks.contentOf(x), text);
   }
 }

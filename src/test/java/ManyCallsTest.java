@@ -3,12 +3,15 @@ import java.util.List;
 /** Long runs of all calls on one object, with drafts and states that nobody thought of. */
 public final class ManyCallsTest {
   private static final Checks CHECKS = new Checks();
+  // The document promises 512; a round has at most 240.
+  private static final int CALLS_BEFORE_THE_LAST_ROUND = 512 - 240;
   private static final String[] ALPHABETS = {"a", "ab", "ab|", "abc|", "a|", "|", "abcdefghijklmnopqrstuvwxyz|", "ab|$", "xyz"};
 
   private final SelfIndexedSequences x;
   private final int step;
   private String draft = "";
   private PlainModel model;
+  private int calls;
 
   private ManyCallsTest(int step) {
     this.step = step;
@@ -16,9 +19,9 @@ public final class ManyCallsTest {
   }
 
   public static void main(String[] args) {
-    for (int run = 0; run < 400; run++) {
+    for (int run = 0; run < 2000; run++) {
       ManyCallsTest test = new ManyCallsTest(run % 20 - 1);
-      for (int round = 0; round < 40; round++) {
+      while (test.calls <= CALLS_BEFORE_THE_LAST_ROUND) {
         test.change();
         test.ask();
       }
@@ -27,6 +30,7 @@ public final class ManyCallsTest {
   }
 
   private void change() {
+    calls++;
     switch (CHECKS.below(8)) {
       case 0 -> {
         x.scrap();
@@ -41,6 +45,7 @@ public final class ManyCallsTest {
 
   private void putSome() {
     int times = 1 + CHECKS.below(13);
+    calls += times;
     String alphabet = ALPHABETS[CHECKS.below(ALPHABETS.length)];
     for (int t = 0; t < times; t++) {
       String more = CHECKS.textOf(alphabet, CHECKS.below(9));
@@ -72,6 +77,7 @@ public final class ManyCallsTest {
       image[other] = kept;
     }
     x.scrap();
+    calls += 14;
     draft = new String(image);
     CHECKS.due("put of " + draft, Checks.putAll(x, draft), true);
     load();
@@ -110,6 +116,7 @@ public final class ManyCallsTest {
   }
 
   private void ask() {
+    calls += 20;
     if (model == null) {
       CHECKS.due("size()", x.size(), 0);
       CHECKS.due("sequences()", x.sequences(), 0);
@@ -117,7 +124,7 @@ public final class ManyCallsTest {
     }
     CHECKS.due("size()", x.size(), model.text.length() + 1);
     CHECKS.due("sequences()", x.sequences(), model.sequences.size());
-    CHECKS.due("image", Checks.imageOf(x).equals(model.image()), true);
+    CHECKS.due("image", Checks.imageOf(x), model.image());
     int k = CHECKS.below(x.size() + 2) - 1;
     CHECKS.due("suffix(" + k + ") of " + model.text, x.suffix(k), model.suffix(k));
     CHECKS.due("walk(" + k + ") of " + model.text, x.walk(k), model.walk(k));
@@ -155,6 +162,7 @@ public final class ManyCallsTest {
     }
     int k = CHECKS.below(5);
     List<Integer> matches = model.matches(pattern, k);
+    calls += occurrences.size() + matches.size() + 6;
     CHECKS.due("matches with " + k + " of " + of, x.matches(word, k), matches.size());
     for (int i = -1; i <= matches.size(); i++) {
       boolean there = i >= 0 && i < matches.size();

@@ -17,14 +17,12 @@ public final class SmallDraftsTest {
         }
       }
     }
-    SelfIndexedSequences x = new SelfIndexedSequences(2);
-    x.build();
-    String content = "";
     for (int length = 0; length <= LONGEST; length++) {
       for (int number = 0; number < 1 << (2 * length); number++) {
         String draft = listOf(number, length);
-        content = tryLoad(x, draft, textOfImage.get(draft), content);
-        content = tryBuild(x, draft, content);
+        SelfIndexedSequences x = Checks.built(2, "xy|z");
+        String content = tryLoad(x, draft, textOfImage.get(draft), "xy|z");
+        tryBuild(x, draft, content);
       }
     }
     CHECKS.end();
@@ -43,18 +41,16 @@ public final class SmallDraftsTest {
     x.put(Checks.word(draft));
     CHECKS.due("load() of " + draft, x.load(), text != null);
     String due = text == null ? before : text;
-    CHECKS.due("text after load() of " + draft, Checks.contentOf(x).equals(due), true);
+    CHECKS.due("text after load() of " + draft, Checks.contentOf(x), due);
     return due;
   }
 
-  private static String tryBuild(SelfIndexedSequences x, String draft, String before) {
+  private static void tryBuild(SelfIndexedSequences x, String draft, String before) {
     x.scrap();
     x.put(Checks.word(draft));
     boolean text = draft.indexOf('$') < 0;
     int sequences = text ? new PlainModel(2, draft).sequences.size() : -1;
     CHECKS.due("build() of " + draft, x.build(), sequences);
-    String due = text ? draft : before;
-    CHECKS.due("text after build() of " + draft, Checks.contentOf(x).equals(due), true);
-    return due;
+    CHECKS.due("text after build() of " + draft, Checks.contentOf(x), text ? draft : before);
   }
 }
