@@ -33,6 +33,7 @@ public final class DraftTest {
     loadWithoutJustOneEnd();
     loadOfSeveralRounds();
     loadRefusedChangesNothing();
+    refusedFullDraftStaysFull();
     CHECKS.end();
   }
 
@@ -419,6 +420,19 @@ public final class DraftTest {
     x.put('$');
     CHECKS.due("load() of a and $", x.load(), true);
     CHECKS.due("its text", Checks.contentOf(x), "a");
+  }
+
+  /** Of such a draft no call tells more than that it is full. */
+  private static void refusedFullDraftStaysFull() {
+    CHECKS.sentence("4, 5: changing nothing, with a draft of 97 symbols without $");
+    SelfIndexedSequences x = Checks.drafted(4, "b".repeat(97));
+    CHECKS.due("build() of 97", x.build(), -1);
+    CHECKS.due("put(a) after build()", x.put('a'), false);
+    CHECKS.due("load() of 97", x.load(), false);
+    CHECKS.due("put(a) after load()", x.put('a'), false);
+    CHECKS.due("put(0) after load()", x.put(0L), true);
+    CHECKS.due("build() again", x.build(), -1);
+    CHECKS.due("size()", x.size(), 0);
   }
 
   /** Builds, and looks whether the draft was this text. */
