@@ -34,6 +34,7 @@ public final class DraftTest {
     loadOfSeveralRounds();
     loadRefusedChangesNothing();
     refusedFullDraftStaysFull();
+    refusedFullDraftKeepsTheIndex();
     CHECKS.end();
   }
 
@@ -433,6 +434,25 @@ public final class DraftTest {
     CHECKS.due("put(0) after load()", x.put(0L), true);
     CHECKS.due("build() again", x.build(), -1);
     CHECKS.due("size()", x.size(), 0);
+    x.scrap();
+    CHECKS.due("put(a) after scrap()", x.put('a'), true);
+    builds("after scrap()", x, "a");
+  }
+
+  private static void refusedFullDraftKeepsTheIndex() {
+    CHECKS.sentence("4, 5: changing nothing, with a draft of 97 symbols without $: nor the index");
+    for (String draft : new String[] {"b".repeat(97), "|".repeat(97), "ab|".repeat(32) + "a"}) {
+      SelfIndexedSequences x = Checks.built(4, "abra|cad");
+      String before = Checks.answersOf(x);
+      CHECKS.due("put of " + draft, Checks.putAll(x, draft), true);
+      CHECKS.due("build() of " + draft, x.build(), -1);
+      CHECKS.due("the index after build() of " + draft, Checks.answersOf(x), before);
+      CHECKS.due("load() of " + draft, x.load(), false);
+      CHECKS.due("the index after load() of " + draft, Checks.answersOf(x), before);
+      x.scrap();
+      CHECKS.due("the index after scrap() of " + draft, Checks.answersOf(x), before);
+      builds("the draft after scrap() of " + draft, x, "");
+    }
   }
 
   /** Builds, and looks whether the draft was this text. */
